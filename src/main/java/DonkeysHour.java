@@ -119,7 +119,7 @@ public final class DonkeysHour {
             case 3: return beast.strokes % HOURS;
             case 4: return beast.places;
             case 5: return beast.allThistles();
-            default: return paceNow(donkey);
+            default: return paceNow(beast, donkey);
         }
     }
 
@@ -202,13 +202,13 @@ public final class DonkeysHour {
         }
         int strokesBefore = scene.allStrokes();
         int thistlesBefore = scene.allThistles();
-        for (int i = 0; i < scene.donkeys; i++) {
+        for (int i = 0; i < scene.donkeys && i < MOST_DONKEYS; i++) {
             tally[i] = scene.beasts[i].strokes;
         }
         passMany(n);
         newRow();
         tell(thistlesBefore - scene.allThistles());
-        for (int i = 0; i < scene.donkeys; i++) {
+        for (int i = 0; i < scene.donkeys && i < MOST_DONKEYS; i++) {
             tell(scene.beasts[i].strokes - tally[i]);
         }
         return scene.allStrokes() - strokesBefore;
@@ -320,8 +320,7 @@ public final class DonkeysHour {
             return NONE;
         }
         look(future, donkey);
-        int shown = future.beast.strokes % HOURS;
-        int k = Math.floorMod(hour - shown - 1, HOURS) + 1;
+        int k = Math.floorMod(hour - future.beast.strokes - 1, HOURS) + 1;
         int after = future.afterStroke(k);
         if (after < 0) {
             return NOT_SO;
@@ -385,7 +384,7 @@ public final class DonkeysHour {
     }
 
     public int due(int contract, int law, int n) {
-        if (contract < 0 || contract >= contracts.size || !isLaw(law) || !isFar(n)) {
+        if (!contracts.has(contract) || !isLaw(law) || !isFar(n)) {
             return NONE;
         }
         look(future, contracts.clock[contract]);
@@ -836,7 +835,7 @@ public final class DonkeysHour {
     // ---- what the calls share
 
     private boolean isDonkey(int donkey) {
-        return donkey >= 0 && donkey < scene.donkeys && donkey < scene.beasts.length;
+        return donkey >= 0 && donkey < scene.donkeys && donkey < MOST_DONKEYS;
     }
 
     private boolean areTwo(int one, int other) {
@@ -929,19 +928,18 @@ public final class DonkeysHour {
         return Math.max(0, Math.min(9, entry));
     }
 
-    private int paceNow(int donkey) {
+    private int paceNow(Beast beast, int number) {
         int now = scene.now;
-        int carrots = scene.carrots.pull(donkey, now);
-        rule.give(scene.beasts[donkey], flies.in(now), carrots, now, donkey);
+        rule.give(beast, flies.in(now), scene.carrots.pull(number, now), now, number);
         return rule.pace();
     }
 
     /** A MINUTE for all DONKEYS; bits of those that ate, and above them of those that did not step. */
     private int pass() {
         int all = 0;
-        for (int i = 0; i < scene.donkeys; i++) {
+        for (int i = 0; i < scene.donkeys && i < MOST_DONKEYS; i++) {
             Beast beast = scene.beasts[i];
-            int did = beast.walk(paceNow(i));
+            int did = beast.walk(paceNow(beast, i));
             if ((did & STRUCK) != 0) {
                 beast.enter(scene.now);
             }
@@ -985,7 +983,9 @@ public final class DonkeysHour {
     }
 
     private void look(Future at, int donkey) {
-        at.begin(scene.beasts[donkey], donkey, scene.now);
+        if (isDonkey(donkey)) {
+            at.begin(scene.beasts[donkey], donkey, scene.now);
+        }
     }
 
     private void lookBoth(int one, int other) {
@@ -1004,7 +1004,7 @@ public final class DonkeysHour {
     }
 
     private void countDue(int n) {
-        for (int i = 0; i < contracts.size; i++) {
+        for (int i = 0; contracts.has(i) && i < MOST_CONTRACTS; i++) {
             look(future, contracts.clock[i]);
             future.run(n, FAR);
             contracts.struck[i] = future.timesStruck(contracts.hour[i]);
@@ -1588,6 +1588,9 @@ public final class DonkeysHour {
 
     /** ACTS of a DAY, as THE TEXT tells them. */
     private static final class Acts {
+        /** No PLACE, and no how of a CARROT. */
+        private static final int WRONG = -2;
+
         final int[] kind = new int[MOST_ACTS];
         final int[] whose = new int[MOST_ACTS];
         /** The PLACE of a sow(), the how of a CARROT. */
@@ -1625,32 +1628,27 @@ public final class DonkeysHour {
             }
             told.takes(sign);
             kind[i] = sign;
-            if (sign != 'm') {
-                whose[i] = told.digit();
-                if (whose[i] < 0) {
-                    return false;
-                }
-            }
-            if (!readBetween(told, i)) {
+            whose[i] = sign == 'm' ? 0 : told.digit();
+            where[i] = whose[i] < 0 ? WRONG : readBetween(told, sign);
+            if (where[i] == WRONG) {
                 return false;
             }
             value[i] = sign == 'm' ? told.number(3) : sign == 'c' ? told.number(2) : told.digit();
             return value[i] >= 0;
         }
 
-        /** What stands between the DONKEY and the last number. */
-        private boolean readBetween(Text told, int i) {
-            switch (kind[i]) {
+        /** What stands between the DONKEY and the last number: a PLACE, a how, or nothing that says more. */
+        private static int readBetween(Text told, int sign) {
+            switch (sign) {
                 case 'c':
-                    where[i] = told.next() == '+' ? 1 : -1;
-                    return told.takes('+') || told.takes('-');
+                    return told.takes('+') ? 1 : told.takes('-') ? -1 : WRONG;
                 case 's':
-                    where[i] = told.number(2);
-                    return where[i] >= 0 && told.takes('=');
+                    int place = told.number(2);
+                    return place >= 0 && told.takes('=') ? place : WRONG;
                 case 'h':
-                    return told.takes('=');
+                    return told.takes('=') ? 0 : WRONG;
                 default:
-                    return true;
+                    return 0;
             }
         }
     }
@@ -1676,6 +1674,10 @@ public final class DonkeysHour {
             hour[size] = itsHour;
             size++;
             return true;
+        }
+
+        boolean has(int contract) {
+            return contract >= 0 && contract < size && contract < MOST_CONTRACTS;
         }
 
         int owedBy(int person, int law) {

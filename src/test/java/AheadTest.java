@@ -98,6 +98,8 @@ final class AheadTest {
         Check.is("not in the 600th", x.stops(0), -2);
         Check.rule(x, "m=599");
         Check.is("a step in the 600th", x.stops(0), -2);
+        Check.rule(x, "m=600");
+        Check.is("a step behind the 600 minutes", x.stops(0), 0);
         x.minutes(7);
         Check.rule(x, "m<20");
         Check.is("from now on", x.stops(0), 13);

@@ -59,6 +59,14 @@ final class CarrotTest {
         Check.rule(x, "(m<7)+c");
         Check.is("the last step by a carrot", x.bribe(0, 1, 1), 3);
         Check.row("the last step by a carrot", x, 3, 601);
+        Check.rule(x, "(m<4)+4*c*(m=60)");
+        Check.is("in minute 60", x.bribe(0, 1, 1), 60);
+        Check.row("in minute 60", x, 57, 601);
+        Check.rule(x, "(m<4)+4*c*(m=61)");
+        Check.is("not in minute 61", x.bribe(0, 1, 1), 0);
+        Check.row("not in minute 61", x, 601, 601);
+        Check.is("but two minutes", x.bribe(0, 2, 1), 60);
+        Check.row("but two minutes", x, 58, 601);
         Check.rule(x, "(m<8)*(1+c)");
         Check.is("never is longer than any", x.bribe(0, 1, -1), 0);
         Check.row("never is longer than any", x, 601, 4);
@@ -99,6 +107,24 @@ final class CarrotTest {
         rests(x, 1, 1, 0, 0, 0, 601);
         Check.rule(x, "1");
         rests(x, 20, 2, 1, 0, 0, 4);
+        for (int n = 1; n <= 10; n++) {
+            Check.is("carrots of " + n, x.rests(0, n, 20), 2);
+        }
+        Check.rule(x, "(m<4)+4*(m=30)*(c>0)");
+        // Boy 1 hurries it to a stroke in minute 30, till boy 0 holds it there.
+        Check.is("in minute 30", x.rests(0, 1, 2), 2);
+        Check.row("in minute 30", x, 0, 0, 30, 27);
+        Check.is("both in minute 30", x.rests(0, 1, 20), 5);
+        Check.row("both in minute 30", x, 1, 30, 30, 601);
+        Check.rule(x, "(m<4)+4*(m=31)*(c>0)");
+        Check.is("not in minute 31", x.rests(0, 1, 20), 2);
+        Check.row("not in minute 31", x, 1, 0, 0, 601);
+        Check.rule(x, "(m<4)+4*(m=39)*(c>0)");
+        Check.is("ten minutes from minute 30 on", x.rests(0, 10, 2), 2);
+        Check.row("ten minutes from minute 30 on", x, 0, 0, 30, 36);
+        Check.rule(x, "(m<4)+4*(m=40)*(c>0)");
+        Check.is("no eleven", x.rests(0, 10, 2), 2);
+        Check.row("no eleven", x, 1, 0, 0, 601);
         x.minutes(100);
         Check.rule(x, "1+c");
         rests(x, 5, 5, 1, 4, 5, 4);

@@ -62,6 +62,14 @@ final class FerryTest {
         Check.row("on the first", x, 5);
         Check.is("not even now", x.sure(0, 1, 2, 1), -2);
         Check.row("the row stays", x, 5);
+        Check.is("just now", x.sure(0, 2, 2, 10), 0);
+        Check.row("just now", x, 10);
+        for (int hunger = 0; hunger < 10; hunger++) {
+            Check.rule(x, "(h=" + hunger + ")*3+1");
+            Check.is("hunger " + hunger + " alone", x.sure(0, 1, 0, 1), 1);
+            Check.row("hunger " + hunger + " alone", x, 1);
+        }
+        Check.rule(x, "h/5+1");
         int[][] wrong = {{-1, 5, 5, 5}, {1, 5, 5, 5}, {0, 0, 0, 5}, {0, 601, 5, 5}, {0, 5, -1, 5}, {0, 5, 100, 5},
             {0, 5, 5, 0}, {0, 5, 5, 11}, {0, 1, 2, 0}, {MAX, 5, 5, 5}, {0, MIN, 5, 5}, {0, 5, MAX, 5}, {0, 5, 5, MAX}};
         for (int[] a : wrong) {
@@ -93,6 +101,8 @@ final class FerryTest {
         Check.row("ferries each minute, a way of 10", x, 3);
         Check.is("ferries each 7 minutes", x.missed(0, 7, 2, 0), 85 - 75 + 1);
         Check.row("the last ferry goes in minute 595", x, 1);
+        Check.is("a minute too late for the next one", x.missed(0, 4, 1, 1), 1);
+        Check.row("a minute too late for the last one", x, 1);
         int[][] wrong = {{-1, 5, 5, 5}, {1, 5, 5, 5}, {0, 0, 5, 5}, {0, 121, 5, 5}, {0, 5, 0, 5}, {0, 5, 13, 5},
             {0, 5, 5, -1}, {0, 5, 5, 100}, {MAX, 5, 5, 5}, {0, MIN, 5, 5}, {0, 5, MAX, 5}, {0, 5, 5, MIN}, {0, -5, 5, 5}};
         for (int[] a : wrong) {

@@ -151,12 +151,17 @@ final class HeardTest {
         Check.is("those that come", x.span(1, 2), 6);
         Check.row("those that come", x, 10, 25);
         Check.is("the 60th of 5 places", x.span(1, 60), 296);
+        Check.rule(x, "2-h/5");
+        // Hungers 0 .. 3 strike twice in 3 or 4 minutes, 4 slows down behind the first stroke.
+        Check.is("neither first nor last", x.span(0, 2), 3);
+        Check.row("neither first nor last", x, 8, 40);
+        x.span(1, 60);
         Check.rule(x, "0");
         Check.is("none comes", x.span(0, 1), -2);
         int[][] wrong = {{-1, 5}, {2, 5}, {0, 0}, {0, 61}, {MAX, 5}, {0, MIN}, {0, MAX}};
         for (int[] a : wrong) {
             Check.is("span " + Arrays.toString(a), x.span(a[0], a[1]), -1);
         }
-        Check.row("the row stays", x, 300, 25);
+        Check.row("the row stays", x, 300, 50);
     }
 }

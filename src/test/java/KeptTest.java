@@ -72,7 +72,14 @@ final class KeptTest {
         Check.is("what was heard stays", x.count(7), 1);
         Check.is("the row stays", x.count(8), 2);
         Check.is("nothing can be undone", x.count(6), 0);
-        x.minutes(3);
+        x.eat();
+        x.carrot(1, 300, 310, 1);
+        x.again(0);
+        Check.is("the carrot holds as it did", x.donkey(0, 6), 1);
+        x.minutes(20);
+        Check.is("as long as it did", x.donkey(0, 6), 1);
+        x.minutes(1);
+        Check.is("and not longer", x.donkey(0, 6), 2);
         Check.is("it is kept still", x.again(0), true);
         Check.is("now", x.count(1), 20);
         x.stable();

@@ -102,6 +102,8 @@ final class MinutesTest {
         Check.is("five acts", Check.day(x, "m2;c0+3;s003=4;h1=9;m10"), 5);
         // Donkey 0: place 2, then 2 steps a minute for three minutes, till it eats at place 3.
         Check.row("five acts", x, 0, x.count(4));
+        Check.is("hunger 0 becomes another", Check.day(Check.with("0:0000", ""), "h0=5;m1"), 2);
+        Check.is("so do no thistles", Check.day(Check.with("0:0000", ""), "s00=5;m1"), 2);
         Check.is("now", x.count(1), 12);
         Check.is("carrots", x.count(2), 1);
         Check.is("hunger of the other one", x.donkey(1, 0), 9);
@@ -329,6 +331,10 @@ final class MinutesTest {
             Check.is("donkey " + wrong, x.took(wrong, 1), -1);
         }
         Check.is("far from now", x.took(0, MAX), -2);
+        DonkeysHour y = Check.with("5:0000", "4");
+        y.minutes(2);
+        Check.is("struck in minute 0", y.struck(0, 1), 0);
+        Check.is("from minute 0 on", y.took(0, 1), 1);
     }
 
     private static void longest() {

@@ -166,6 +166,8 @@ final class TextTest {
         Check.is("minute 6 % 40", x.donkey(0, 6), 3);
         x.minutes(35);
         Check.is("minute 41 % 40", x.donkey(0, 6), 2);
+        Check.is("one digit", Check.flies(x, "3"), 1);
+        Check.is("the same in each minute", x.donkey(0, 6), 3);
         Check.is("none", x.flies(), 0);
         Check.is("none: 0", x.donkey(0, 6), 0);
     }
