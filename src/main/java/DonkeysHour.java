@@ -1681,19 +1681,17 @@ public final class DonkeysHour {
         }
 
         int owedBy(int person, int law) {
-            int sum = 0;
-            for (int i = 0; i < size && i < MOST_CONTRACTS; i++) {
-                if (debtor[i] == person) {
-                    sum += frogs[i] * timesDue(law, struck[i]);
-                }
-            }
-            return sum;
+            return sumOf(debtor, person, law);
         }
 
         int owedTo(int person, int law) {
+            return sumOf(creditor, person, law);
+        }
+
+        private int sumOf(int[] side, int person, int law) {
             int sum = 0;
-            for (int i = 0; i < size && i < MOST_CONTRACTS; i++) {
-                if (creditor[i] == person) {
+            for (int i = 0; i < size && i < side.length && i < MOST_CONTRACTS; i++) {
+                if (side[i] == person) {
                     sum += frogs[i] * timesDue(law, struck[i]);
                 }
             }

@@ -16,6 +16,7 @@ public final class AllTests {
         KeptTest.run();
         ModelTest.run();
         LanguageTest.run();
+        ExtremeTest.run();
         int passed = 0;
         int failed = 0;
         for (int p = 1; p < Check.ALL; p++) {
