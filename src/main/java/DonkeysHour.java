@@ -1856,13 +1856,10 @@ public final class DonkeysHour {
             return strokeMinute(k) + w + 1;
         }
 
+        /** The latest STROKE from which one is there for a FERRY: those behind it are not run to. */
         int latestFor(int ferry, int w) {
             run(ferry - w, FAR);
-            int k = 0;
-            while (k < strokes && there(k + 1, w) <= ferry) {
-                k++;
-            }
-            return k;
+            return strokes;
         }
     }
 }

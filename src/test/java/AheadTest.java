@@ -131,6 +131,9 @@ final class AheadTest {
         }
         x.eats(0, 8);
         Check.row("the row of eight", x, 1, 2);
+        DonkeysHour y = Check.with("5:2001", "");
+        Check.is("on place 0, too", y.eats(0, 600), 3);
+        Check.row("on place 0, too", y, 0, 2);
     }
 
     /** Questions change nothing: each is asked, and all is as it was. */

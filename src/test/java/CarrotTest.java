@@ -119,6 +119,12 @@ final class CarrotTest {
         Check.rule(x, "(m<4)+4*(m=31)*(c>0)");
         Check.is("not in minute 31", x.rests(0, 1, 20), 2);
         Check.row("not in minute 31", x, 1, 0, 0, 601);
+        Check.rule(x, "2+c");
+        // They go round and round: (0, 0), (0, 3), (2, 3), (2, 0), and again.
+        Check.is("boy 0 goes back to minute 0", x.rests(0, 4, 5), 5);
+        Check.row("boy 0 goes back to minute 0", x, 0, 0, 0, 2);
+        Check.is("they never rest", x.rests(0, 4, 20), 20);
+        Check.row("they never rest", x, 0, 2, 0, 1);
         Check.rule(x, "(m<4)+4*(m=39)*(c>0)");
         Check.is("ten minutes from minute 30 on", x.rests(0, 10, 2), 2);
         Check.row("ten minutes from minute 30 on", x, 0, 0, 30, 36);

@@ -155,6 +155,11 @@ final class HeardTest {
         // Hungers 0 .. 3 strike twice in 3 or 4 minutes, 4 slows down behind the first stroke.
         Check.is("neither first nor last", x.span(0, 2), 3);
         Check.row("neither first nor last", x, 8, 40);
+        Check.rule(x, "(h<1)*(p=0)*4+(m>5)");
+        // Hunger 0 on place 0 strikes at once; all others step from minute 6 on.
+        Check.is("the first way", x.span(0, 1), 1);
+        Check.row("the first way", x, 10, 40);
+        Check.rule(x, "2-h/5");
         x.span(1, 60);
         Check.rule(x, "0");
         Check.is("none comes", x.span(0, 1), -2);
