@@ -17,6 +17,12 @@ public final class AllTests {
         ModelTest.run();
         LanguageTest.run();
         ExtremeTest.run();
+        TermsEdges.run();
+        TextEdges.run();
+        StableEdges.run();
+        MinutesEdges.run();
+        AheadEdges.run();
+        LaterEdges.run();
         int passed = 0;
         int failed = 0;
         for (int p = 1; p < Check.ALL; p++) {
@@ -29,8 +35,15 @@ public final class AllTests {
                 failed++;
             }
         }
+        for (int p = 1; p <= Check.PROMISES; p++) {
+            if (Edge.edges[p] == 0) {
+                System.out.println("no boundary case of promise " + p);
+                failed++;
+            }
+        }
         System.out.println(passed + " passed, " + failed + " failed");
-        if (failed > 0) {
+        System.out.println("boundary cases: " + Edge.passed + " passed, " + Edge.failed + " failed");
+        if (failed + Edge.failed > 0) {
             System.exit(1);
         }
     }
