@@ -127,6 +127,8 @@ final class LaterEdges {
             "bid 0 2 600 ~ -1 | bid 1 1 600 ~ -1");
         Edge.of(37, "NONE: others: DONKEYS", c + "bid 1 1 4 ~ -1 | bid -1 1 4 ~ -1 | bid -2147483648 1 4 ~ -1");
         Edge.of(37, "of one CARROT from now on", c + "minutes 5 | bid 0 -1 5 ~ 2 | bid 0 1 2 ~ 1");
+        Edge.of(37, "no more than one is thought of: nothing of it stays", c + "bribe 0 20 -1 | rests 0 10 20",
+            "bid 0 -1 6 ~ 2 | bid 0 1 1 ~ -2 | when 0 60 ~ 240 | bid 0 1 4 ~ 0 | when 0 60 ~ 240");
         Edge.of(37, "those that are there stay, ten as well", c + "10x carrot 0 1 1 -1 | bid 0 -1 5 ~ 0",
             "bid 0 -1 6 ~ 1 | bid 0 -1 7 ~ 3 | count 2 = 10 | when 0 1 = 5");
     }
@@ -209,6 +211,10 @@ final class LaterEdges {
             "rule 'm=600' | span 0 1 ~ -2");
         Edge.of(43, "at the earliest, at the latest", ONE + " | span 0 1 ? 1 | rows 4 40 | rule '(m>p)*(h=9)'",
             "span 0 1 ? 5 | rows 5 4 | rule '(p>m)' | span 0 1 ? 1 | rows 3 30");
+        Edge.of(43, "at the earliest, at the latest: one way alone", ONE + " | rule 'h=9' | heard 0 1 1",
+            "span 0 1 ? 1 | rows 1 1 | span 0 2 ? 5 | rows 5 1");
+        Edge.of(43, "at the earliest: by the first way alone", ONE + " | rule '(h<1)*(p=0)*4+(m>5)'",
+            "span 0 1 ? 1 | rows 10 40");
         Edge.of(43, "at the earliest: by a way that is neither the first nor the last", ONE + " | rule '2-h/5'",
             "span 0 2 ? 3 | rows 8 40");
         Edge.of(43, "at the latest: by a way that is neither the first nor the last", ONE + " | rule '1+(h=0)+(p=3)'",
