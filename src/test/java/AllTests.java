@@ -17,6 +17,7 @@ public final class AllTests {
         ModelTest.run();
         LanguageTest.run();
         ExtremeTest.run();
+        ReadmeTest.run();
         TermsEdges.run();
         TextEdges.run();
         StableEdges.run();

@@ -5,7 +5,8 @@ final class Check {
     static final int PROMISES = 53;
     static final int MODEL = 54;
     static final int LANGUAGE = 55;
-    static final int ALL = 56;
+    static final int README = 56;
+    static final int ALL = 57;
     static final int[] checks = new int[ALL];
     static final int[] wrong = new int[ALL];
     private static int promise;
@@ -21,11 +22,20 @@ final class Check {
         promise = p;
     }
 
+    private static String label() {
+        switch (promise) {
+            case MODEL: return "the model";
+            case LANGUAGE: return "LANGUAGE.md";
+            case README: return "README.md";
+            default: return "promise " + promise;
+        }
+    }
+
     static void is(String what, long got, long due) {
         checks[promise]++;
         if (got != due) {
             wrong[promise]++;
-            System.out.println("promise " + promise + ": " + what + " is " + got + ", due is " + due);
+            System.out.println(label() + ": " + what + " is " + got + ", due is " + due);
         }
     }
 
@@ -44,7 +54,7 @@ final class Check {
             got = e.toString();
         }
         wrong[promise]++;
-        System.out.println("promise " + promise + ": " + what + ": " + got + ", due is NoSuchElementException");
+        System.out.println(label() + ": " + what + ": " + got + ", due is NoSuchElementException");
     }
 
     /** The ROW has these numbers and no others. */
